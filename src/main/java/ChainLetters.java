@@ -54,6 +54,10 @@ public final class ChainLetters {
     }
 
     public int price(int letter, int way) {
+        if (letters.sources(letter, way) == NONE) {
+            return NONE;
+        }
+        letters.refresh();
         return letters.priceOf(letter, way);
     }
 
@@ -398,14 +402,11 @@ public final class ChainLetters {
         }
 
         private boolean isOther(int letter, int x) {
-            return x != letter && has(x);
+            return x != letter && x >= 0 && x < count;
         }
 
-        /** What a way costs a letter by itself; NONE if the letter has no such way. */
+        /** What a way that the letter has costs it by itself; the prices are refreshed ahead of it. */
         int priceOf(int letter, int way) {
-            if (sources(letter, way) == NONE) {
-                return NONE;
-            }
             if (way == 0) {
                 return priceFirst(letter);
             }
@@ -427,18 +428,17 @@ public final class ChainLetters {
         }
 
         int priceCopied(int letter, int x) {
-            refresh();
             return copied[(letter * MOST + x) * (SENTENCES + 1) + SENTENCES];
         }
 
         int priceJoined(int letter, int x, int y, int cut) {
-            refresh();
             int ofX = (letter * MOST + x) * (SENTENCES + 1);
             int ofY = (letter * MOST + y) * (SENTENCES + 1);
             return costs[JOIN] + copied[ofX + cut] + copied[ofY + SENTENCES] - copied[ofY + cut];
         }
 
-        private void refresh() {
+        /** Makes the prices what they are by the forms and costs told so far. */
+        void refresh() {
             if (copiedStands) {
                 return;
             }
@@ -541,6 +541,7 @@ public final class ChainLetters {
 
         int leastCost() {
             if (!priced) {
+                letters.refresh();
                 for (int letter = 0; letter < letters.count; letter++) {
                     fillSteps(letter);
                 }
@@ -1140,17 +1141,17 @@ public final class ChainLetters {
         }
 
         int fewestTold(int person, int m) {
-            for (int many = 0; many < PEOPLE; many++) {
-                for (int told = 0; told <= ALL; told++) {
-                    if (Integer.bitCount(told) != many || (told >> person & 1) != 0) {
-                        continue;
-                    }
-                    if (Integer.bitCount(reached(person, told)) <= m) {
-                        return told;
-                    }
+            // Telling one whom no letter reaches anyway helps nothing; telling all others always does.
+            int able = reached(person, 0) & ~(1 << person), best = able;
+            for (int told = 0; told <= able; told++) {
+                if ((told & ~able) != 0 || Integer.bitCount(told) >= Integer.bitCount(best)) {
+                    continue;
+                }
+                if (Integer.bitCount(reached(person, told)) <= m) {
+                    best = told;
                 }
             }
-            return ALL ^ 1 << person;
+            return best;
         }
 
         long foldInto(long start) {
@@ -1318,7 +1319,7 @@ public final class ChainLetters {
                 return 0;
             }
             long left = 0;
-            for (int i = MOST - 1; i >= 0; i--) {
+            for (int i = Math.min(size, MOST) - 1; i >= 0; i--) {
                 left = (left << BITS | digits[i]) % divisor;
             }
             return (int) left;
@@ -1329,7 +1330,7 @@ public final class ChainLetters {
                 return;
             }
             long left = 0;
-            for (int i = MOST - 1; i >= 0; i--) {
+            for (int i = Math.min(size, MOST) - 1; i >= 0; i--) {
                 long part = left << BITS | digits[i];
                 digits[i] = (int) (part / divisor);
                 left = part % divisor;
