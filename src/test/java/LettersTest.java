@@ -14,6 +14,7 @@ public final class LettersTest {
         leastIsATree();
         way();
         wayIsTheLeastRow();
+        wayFromAnEmptyOne();
         mayAndSure();
         mayIsNotFromItself();
         date();
@@ -301,6 +302,24 @@ public final class LettersTest {
         j.cost(JOIN, 0);
         j.cost(BEGIN, 2);
         Check.due("way(2), the least cut", j.way(2), joined(0, 1, 4));
+    }
+
+    private static void wayFromAnEmptyOne() {
+        ChainLetters x = new ChainLetters();
+        add(x, "123", 0, 50);
+        x.cost(BEGIN, 5);
+        Check.due("least() of one", x.least(), 15);
+        Check.due("way(0) of one", x.way(0), 0);
+        Check.due("date(0, 0) of one", x.date(0, 0), 0);
+        x.letter(3, 4);
+        Check.due("least() with an empty one", x.least(), 3);
+        Check.due("way(0) with an empty one", x.way(0), 2);
+        Check.due("way(1), the empty one", x.way(1), 0);
+        Check.due("date(0, 0) with an empty one", x.date(0, 0), 3);
+        Check.due("date(1, 1), the empty one", x.date(1, 1), 4);
+        x.letter(5, 60);
+        Check.due("date(2, 0), another empty one", x.date(2, 0), 5);
+        Check.due("date(2, 1), another empty one", x.date(2, 1), 60);
     }
 
     private static void mayAndSure() {

@@ -106,7 +106,7 @@ public final class RandomRunsTest {
         if (m.count(0) >= mostLetters) return;
         due("letter(" + a + ", " + b + ")", x.letter(a, b), m.letter(a, b));
         int n = m.count(0), cut = random.nextInt(9);
-        if (n == 0) return;
+        if (n == 0 || random.nextInt(6) == 0) return;
         int like = random.nextInt(n), other = random.nextInt(n);
         for (int s = 0; s < 8; s++) {
             int from = s < cut ? like : other;
