@@ -604,6 +604,7 @@ public final class ChainLetters {
                 if ((set >> letter & 1) != 0) {
                     continue;
                 }
+                // What is new by the lowest one: a copy of it, or it joined with another of the set.
                 int x = lowestOf(set);
                 int without = set & ~(1 << x);
                 int least = Math.min(steps[row + without], letters.priceCopied(letter, x));
@@ -628,6 +629,9 @@ public final class ChainLetters {
         private void fillPairs(int letter) {
             for (int x = 0; x < letters.count; x++) {
                 for (int y = x + 1; y < letters.count; y++) {
+                    if (x == letter || y == letter) {
+                        continue;
+                    }
                     int least = FAR;
                     for (int cut = 1; cut < Letters.SENTENCES; cut++) {
                         least = Math.min(least, letters.priceJoined(letter, x, y, cut));

@@ -47,6 +47,7 @@ public final class NamesTest {
         Check.due("name(0, 1)", x.name(0, 1), -2);
         Check.due("name(7, 1)", x.name(7, 1), -2);
         Check.due("name(-1, 1)", x.name(-1, 1), -2);
+        Check.due("name(7, aaaaaaa)", x.name(7, digits("aaaaaaa")), -2);
         Check.due("name(1, 0)", x.name(1, 0), -2);
         Check.due("name(1, 27)", x.name(1, 27), -2);
         Check.due("name(1, 28)", x.name(1, 28), -2);
