@@ -17,13 +17,14 @@ public final class RoomTest {
         com.sun.management.ThreadMXBean bean = (com.sun.management.ThreadMXBean) ManagementFactory.getThreadMXBean();
         long id = Thread.currentThread().getId();
         bean.getThreadAllocatedBytes(id);
-        ChainLetters x = new ChainLetters();
+        ChainLetters[] some = new ChainLetters[5];
+        for (int i = 0; i < some.length; i++) some[i] = new ChainLetters();
         callAll(new ChainLetters());
         // The least of some times: the machine itself may make something beside the calls now and then.
         long made = Long.MAX_VALUE;
-        for (int i = 0; i < 5; i++) {
+        for (int i = 0; i < some.length; i++) {
             long ahead = bean.getThreadAllocatedBytes(id);
-            callAll(x);
+            callAll(some[i]);
             made = Math.min(made, bean.getThreadAllocatedBytes(id) - ahead);
         }
         Check.that("calls made " + made + " bytes", made == 0);
