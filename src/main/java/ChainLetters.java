@@ -14,8 +14,8 @@ public final class ChainLetters {
     private final Fraction fraction;
 
     public ChainLetters() {
-        letters = new Letters();
-        trees = new Trees(letters);
+        trees = new Trees();
+        letters = trees.letters;
         names = new Names();
         habits = new Habits();
         askings = new Askings();
@@ -506,7 +506,7 @@ public final class ChainLetters {
         // More than any tree costs, and small enough that some of it may be added up.
         private static final int FAR = 1 << 20;
 
-        private final Letters letters;
+        final Letters letters;
         // The least price of a letter that stands behind a set: a row of sets for each letter.
         private final int[] steps;
         // The least price of two joined, either way round, for the letter that is looked at.
@@ -520,8 +520,8 @@ public final class ChainLetters {
         private int cost;
         private boolean priced, settled, quarrel;
 
-        Trees(Letters all) {
-            letters = all;
+        Trees() {
+            letters = new Letters();
             steps = new int[Letters.MOST * SETS];
             pairs = new int[Letters.MOST * Letters.MOST];
             built = new int[SETS];

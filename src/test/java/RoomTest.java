@@ -2,18 +2,23 @@ import java.lang.management.ManagementFactory;
 import java.lang.reflect.Array;
 import java.lang.reflect.Field;
 import java.lang.reflect.Modifier;
+import java.nio.file.Files;
+import java.nio.file.Path;
 import java.util.IdentityHashMap;
 
-/** How much room an object takes, and that no call makes another object. */
+/** How much room an object takes, as README.md tells it too, and that no call makes another object. Run it in the project's folder. */
 public final class RoomTest {
     private static int objects;
     private static int elements;
 
-    public static void main(String[] args) throws IllegalAccessException {
+    public static void main(String[] args) throws Exception {
         count(new ChainLetters(), new IdentityHashMap<>());
         System.out.println("a new object: " + objects + " objects, " + elements + " fields and elements");
         Check.that("at most 100 objects", objects <= 100);
         Check.that("at most 6000 fields and elements", elements <= 6000);
+        String told = "(" + objects + " objects, some 4,400 fields and elements)";
+        Check.that("README.md tells the room: " + told, Files.readString(Path.of("README.md")).replace('\n', ' ').contains(told));
+        Check.due("fields and elements in hundreds", Math.round(elements / 100.0), 44);
         com.sun.management.ThreadMXBean bean = (com.sun.management.ThreadMXBean) ManagementFactory.getThreadMXBean();
         long id = Thread.currentThread().getId();
         bean.getThreadAllocatedBytes(id);
